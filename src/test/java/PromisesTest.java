@@ -89,10 +89,12 @@ public final class PromisesTest {
             due(name + ".outerEdges()", x.outerEdges(), 0);
             due(name + ".leader(N-1)", x.leader(n - 1), n - 1);
             due(name + ".leader(N)", x.leader(n), BAD);
+            // An object of its own: both together would be more than 512 calls.
+            IncrementalScc y = new IncrementalScc(asked[i]);
             for (int u = 0; u < n; u++) {
                 for (int v = 0; v < n; v++) {
                     due(name + ".reaches(" + u + ", " + v + ")", x.reaches(u, v), u == v);
-                    due(name + ".removeEdge(" + u + ", " + v + ")", x.removeEdge(u, v), u == v ? BAD : NONE);
+                    due(name + ".removeEdge(" + u + ", " + v + ")", y.removeEdge(u, v), u == v ? BAD : NONE);
                 }
             }
         }
