@@ -6,7 +6,7 @@ import java.util.Arrays;
 import java.util.Set;
 import java.util.TreeSet;
 
-// The public face of the document, and what of LANGUAGE.md (rules 1, 2, 5 and 10) the compiled class shows.
+// The public face of the document, and what of LANGUAGE.md (rules 1, 2, 4, 5 and 10) the compiled class shows.
 public final class FaceTest {
     private static final Set<String> FACE = new TreeSet<>(Arrays.asList(
         "public static final int IncrementalScc.BAD",
